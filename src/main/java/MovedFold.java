@@ -1103,10 +1103,11 @@ public final class MovedFold {
         }
 
         private boolean usable(int set) {
-            return table.isFold(set) && table.sideCounts[set] <= hurdles;
+            int sideCount = table.sideCounts[set];
+            return sideCount != NONE && sideCount <= hurdles;
         }
 
-        /** All that is had together is itself in one piece: other sets need no look. */
+        /** All that is had by a course so far is itself in one piece: other sets need no look. */
         private void workOut(int goal, int w, int n) {
             room.widen(table.all);
             yards = w;
@@ -1133,7 +1134,7 @@ public final class MovedFold {
         private void workOutLasts(int goal, int had) {
             boolean done = isGone(had);
             for (int last = had; last > 0; last = (last - 1) & had) {
-                if (usable(last)) {
+                if (usable(last) && (last == had || table.isFold(had ^ last))) {
                     int count = table.yardSums[last] >= yards ? nextCount : 0;
                     int value;
                     if (goal == HOW_MANY) {
@@ -1165,7 +1166,7 @@ public final class MovedFold {
             int least = FAR;
             for (int i = 0; i < count; i++) {
                 int next = room.nexts[i];
-                if ((near & next) != 0) {
+                if ((near & next) != 0 && table.sideCounts[next] < least) {
                     least = Math.min(least, Math.max(table.sideCounts[next], valueAt(had | next, next)));
                 }
             }

@@ -680,7 +680,7 @@ final class Model {
         List<Integer> way = new ArrayList<>();
         for (int x = 0; x < w; x++) {
             for (int y = 0; y < h; y++) {
-                way.add(way.size() - x * h == y && x % 2 == 1 ? w * (h - 1 - y) + x : w * y + x);
+                way.add(x % 2 == 1 ? w * (h - 1 - y) + x : w * y + x);
             }
         }
         return way;
