@@ -24,6 +24,8 @@ public final class MovedFold {
     private static final int FEWEST_NEEDED = 0, FEWEST_LIFTED = 1, HOW_MANY = 2;
     private static final int FAR = 1 << 20, MODULUS = 1000000007;
     private static final int EVEN = 100;
+    /** Folds next to what is had: in a field of 5 by 2 they are 4025 in all, in others fewer. */
+    private static final int MOST_STEPS = 4096;
 
     private final Text text;
     private final Reader reader;
@@ -48,9 +50,9 @@ public final class MovedFold {
         carrying = new Carrying();
         pair = new Pair();
         walk = new Walk();
-        Room room = new Room();
-        gone = new Courses(folds, room);
-        plainGone = new Courses(plainFolds, room);
+        Steps steps = new Steps();
+        gone = new Courses(folds, steps);
+        plainGone = new Courses(plainFolds, steps);
         lookAgain();
     }
 
@@ -223,9 +225,9 @@ public final class MovedFold {
             return gone.lifted;
         }
         if (i == -1) {
-            return gone.steps;
+            return gone.length;
         }
-        return i < gone.steps ? gone.row[i] : NONE;
+        return i < gone.length ? gone.row[i] : NONE;
     }
 
     public int courses(int w, int n) {
@@ -659,6 +661,11 @@ public final class MovedFold {
             return sideCounts[set] != NONE;
         }
 
+        /** Squares beside a set; all, where nothing is there that they must lie beside. */
+        int nextTo(int set) {
+            return set == 0 ? all : beside[set];
+        }
+
         /** With 0 for the fold ahead, all that the fold needs. */
         int liftedTo(int fold, int ahead) {
             return Integer.bitCount(needs[fold] & ~needs[ahead]);
@@ -975,65 +982,73 @@ public final class MovedFold {
         }
     }
 
-    /** What the courses over a field are worked out in: one for all, as only one is at work. */
-    private static final class Room {
-        private final int[] thirds = new int[SETS];
-        private final int[] nexts = new int[SETS];
-        private int[] values = new int[0];
+    /**
+     * For each set that a course can have had so far, the folds that can come next, and what each is worth.
+     * One for all courses, as only one is at work; a set that was had is always in one piece.
+     */
+    private static final class Steps {
+        private final int[] starts = new int[SETS + 1];
+        private final int[] nexts = new int[MOST_STEPS];
+        private final int[] values = new int[MOST_STEPS];
+        private FoldTable listed;
 
-        Room() {
-            int power = 1;
-            for (int square = 0; square < SQUARES; square++) {
-                for (int set = 0; set < 1 << square; set++) {
-                    thirds[set | 1 << square] = thirds[set] + power;
-                }
-                power *= 3;
+        void list(FoldTable table) {
+            if (listed == table) {
+                return;
             }
+            listed = table;
+            int count = 0;
+            for (int had = 0; had <= table.all; had++) {
+                starts[had] = count;
+                if (had == 0 || table.isFold(had)) {
+                    count = listBehind(table, had, count);
+                }
+            }
+            starts[table.all + 1] = count;
         }
 
-        /** Each square is not had, had, or had by the last fold: one sign of three. */
-        void widen(int all) {
-            int size = 2 * thirds[all] + 1;
-            if (values.length < size) {
-                values = new int[size];
+        private int listBehind(FoldTable table, int had, int from) {
+            int count = from;
+            int near = table.nextTo(had);
+            int others = table.all & ~had;
+            for (int next = others; next > 0; next = (next - 1) & others) {
+                if ((near & next) != 0 && table.isFold(next) && count < MOST_STEPS) {
+                    nexts[count] = next;
+                    count++;
+                }
             }
+            return count;
         }
     }
 
     /** Courses over one field, worked out from their ends. */
     private static final class Courses {
         private final FoldTable table;
-        private final Room room;
+        private final Steps steps;
         private final int[] fewestKept = new int[MOST_YARDS + 1];
         private final int[] row = new int[SQUARES];
-        private int steps;
+        private int length;
         private int lifted;
         private int bestYards;
         private int bestHurdles;
         private int yards;
         private int hurdles;
-        private int nextCount;
 
-        Courses(FoldTable table, Room room) {
+        Courses(FoldTable table, Steps steps) {
             this.table = table;
-            this.room = room;
+            this.steps = steps;
         }
 
         void forget() {
             Arrays.fill(fewestKept, UNKNOWN);
             bestYards = UNKNOWN;
+            steps.listed = null;
         }
 
         int fewestFor(int w) {
             if (fewestKept[w] == UNKNOWN) {
                 workOut(FEWEST_NEEDED, w, table.mostSides);
-                int least = FAR;
-                for (int first = 1; first <= table.all; first++) {
-                    if (usable(first)) {
-                        least = Math.min(least, Math.max(table.sideCounts[first], valueAt(first, first)));
-                    }
-                }
-                fewestKept[w] = least < FAR ? least : NONE;
+                fewestKept[w] = orNone(leastNeededOn(0, 0));
             }
             return fewestKept[w];
         }
@@ -1041,145 +1056,120 @@ public final class MovedFold {
         /** More hurdles than any fold needs change nothing. */
         void findBest(int w, int n) {
             int enough = Math.min(n, table.mostSides);
-            if (bestYards == w && bestHurdles == enough) {
-                return;
+            if (bestYards != w || bestHurdles != enough) {
+                workOut(FEWEST_LIFTED, w, enough);
+                lifted = orNone(leastLiftedOn(0, 0));
+                bestYards = w;
+                bestHurdles = enough;
+                writeRow();
             }
-            workOut(FEWEST_LIFTED, w, enough);
-            int least = FAR;
-            for (int first = 1; first <= table.all; first++) {
-                if (usable(first)) {
-                    least = Math.min(least, table.sideCounts[first] + valueAt(first, first));
-                }
-            }
-            lifted = least < FAR ? least : NONE;
-            bestYards = w;
-            bestHurdles = enough;
-            writeRow();
         }
 
         int ways(int w, int n) {
-            workOut(HOW_MANY, w, Math.min(n, table.mostSides));
-            int sum = 0;
-            for (int first = 1; first <= table.all; first++) {
-                if (usable(first)) {
-                    sum = (sum + valueAt(first, first)) % MODULUS;
-                }
-            }
-            return sum;
+            workOut(HOW_MANY, w, n);
+            return waysOn(0, 0);
+        }
+
+        private static int orNone(int value) {
+            return value < FAR ? value : NONE;
         }
 
         /** Of several the first: the least fold each time, and none where none is needed. */
         private void writeRow() {
-            steps = 0;
+            length = 0;
             int had = 0;
             int last = 0;
             int left = lifted;
-            while (lifted != NONE && steps < SQUARES && (steps == 0 || !isGone(had))) {
+            while (lifted != NONE && length < SQUARES && (length == 0 || !isGone(had))) {
                 int next = leastNext(had, last, left);
                 left -= table.liftedTo(next, last);
-                row[steps] = next;
-                steps++;
+                row[length] = next;
+                length++;
                 had |= next;
                 last = next;
             }
         }
 
+        /** The folds that can come next are listed downward. */
         private int leastNext(int had, int last, int left) {
-            for (int next = 1; next <= table.all; next++) {
-                if (usable(next) && (next & had) == 0 && (last == 0 || (table.beside[last] & next) != 0)
-                    && table.liftedTo(next, last) + valueAt(had | next, next) == left) {
+            int near = table.nextTo(last);
+            for (int i = steps.starts[had + 1] - 1; i >= steps.starts[had]; i--) {
+                int next = steps.nexts[i];
+                if ((near & next) != 0 && table.liftedTo(next, last) + steps.values[i] == left) {
                     return next;
                 }
             }
             return 0;
         }
 
-        private int valueAt(int had, int last) {
-            return room.values[room.thirds[had] + room.thirds[last]];
-        }
-
         private boolean isGone(int had) {
             return (table.wanted & ~had) == 0;
         }
 
-        private boolean usable(int set) {
-            int sideCount = table.sideCounts[set];
-            return sideCount != NONE && sideCount <= hurdles;
-        }
-
-        /** All that is had by a course so far is itself in one piece: other sets need no look. */
+        /** A set with one more fold is a greater number, so that what comes behind is known. */
         private void workOut(int goal, int w, int n) {
-            room.widen(table.all);
+            steps.list(table);
             yards = w;
             hurdles = n;
-            for (int had = table.all; had > 0; had--) {
-                if (table.isFold(had)) {
-                    listNexts(had);
-                    workOutLasts(goal, had);
+            for (int had = table.all; had >= 0; had--) {
+                for (int i = steps.starts[had]; i < steps.starts[had + 1]; i++) {
+                    int next = steps.nexts[i];
+                    steps.values[i] = goal == HOW_MANY ? waysBehind(had | next, next) : leastBehind(goal, had | next, next);
                 }
             }
         }
 
-        private void listNexts(int had) {
-            int others = table.all & ~had;
-            nextCount = 0;
-            for (int next = others; next > 0; next = (next - 1) & others) {
-                if (usable(next)) {
-                    room.nexts[nextCount] = next;
-                    nextCount++;
-                }
+        private int waysBehind(int had, int last) {
+            if (table.sideCounts[last] > hurdles) {
+                return 0;
             }
+            int ended = isGone(had) ? 1 : 0;
+            return table.yardSums[last] < yards ? ended : (ended + waysOn(had, last)) % MODULUS;
         }
 
-        private void workOutLasts(int goal, int had) {
-            boolean done = isGone(had);
-            for (int last = had; last > 0; last = (last - 1) & had) {
-                if (usable(last) && (last == had || table.isFold(had ^ last))) {
-                    int count = table.yardSums[last] >= yards ? nextCount : 0;
-                    int value;
-                    if (goal == HOW_MANY) {
-                        value = (waysOn(had, last, count) + (done ? 1 : 0)) % MODULUS;
-                    } else if (done) {
-                        value = 0;
-                    } else {
-                        value = goal == FEWEST_LIFTED ? leastLiftedOn(had, last, count) : leastNeededOn(had, last, count);
-                    }
-                    room.values[room.thirds[had] + room.thirds[last]] = value;
-                }
+        private int leastBehind(int goal, int had, int last) {
+            if (table.sideCounts[last] > hurdles) {
+                return FAR;
             }
+            if (isGone(had)) {
+                return 0;
+            }
+            if (table.yardSums[last] < yards) {
+                return FAR;
+            }
+            return goal == FEWEST_NEEDED ? leastNeededOn(had, last) : leastLiftedOn(had, last);
         }
 
-        private int leastLiftedOn(int had, int last, int count) {
-            int near = table.beside[last];
+        private int leastNeededOn(int had, int last) {
+            int near = table.nextTo(last);
             int least = FAR;
-            for (int i = 0; i < count; i++) {
-                int next = room.nexts[i];
-                if ((near & next) != 0) {
-                    least = Math.min(least, table.liftedTo(next, last) + valueAt(had | next, next));
+            for (int i = steps.starts[had]; i < steps.starts[had + 1]; i++) {
+                int next = steps.nexts[i];
+                if (steps.values[i] < least && (near & next) != 0) {
+                    least = Math.min(least, Math.max(table.sideCounts[next], steps.values[i]));
                 }
             }
             return least;
         }
 
-        private int leastNeededOn(int had, int last, int count) {
-            int near = table.beside[last];
+        private int leastLiftedOn(int had, int last) {
+            int near = table.nextTo(last);
             int least = FAR;
-            for (int i = 0; i < count; i++) {
-                int next = room.nexts[i];
-                if ((near & next) != 0 && table.sideCounts[next] < least) {
-                    least = Math.min(least, Math.max(table.sideCounts[next], valueAt(had | next, next)));
+            for (int i = steps.starts[had]; i < steps.starts[had + 1]; i++) {
+                int next = steps.nexts[i];
+                if (steps.values[i] < least && (near & next) != 0) {
+                    least = Math.min(least, table.liftedTo(next, last) + steps.values[i]);
                 }
             }
             return least;
         }
 
-        private int waysOn(int had, int last, int count) {
-            int near = table.beside[last];
+        private int waysOn(int had, int last) {
+            int near = table.nextTo(last);
             int sum = 0;
-            for (int i = 0; i < count; i++) {
-                int next = room.nexts[i];
-                if ((near & next) != 0) {
-                    sum = (sum + valueAt(had | next, next)) % MODULUS;
+            for (int i = steps.starts[had]; i < steps.starts[had + 1]; i++) {
+                if ((near & steps.nexts[i]) != 0) {
+                    sum = (sum + steps.values[i]) % MODULUS;
                 }
             }
             return sum;

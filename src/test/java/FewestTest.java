@@ -235,6 +235,16 @@ final class FewestTest {
         goesDue(fold, false, 4, 10, 10 + 5 + 3);
         goesDue(fold, false, 9, 12, 12);
         goesDue(fold, false, 10, 12, 12);
+        MovedFold low = Check.told("field 3 2;yards 0 1 0");
+        // 0 3 4, then 1 2 5 (three edges of the first)
+        goesDue(low, false, 3, 8, 8 + 5);
+        // 0 3, 4 1, 2 5
+        goesDue(low, false, 2, 6, 6 + 4 + 4);
+        // 0 3 4 1 (a square), then 2 5
+        goesDue(low, false, 4, 8, 8 + 4);
+        MovedFold one = Check.told("field 2 2;hedge 0 0 left");
+        // 0 2 3, then 1
+        goesDue(one, false, 3, 7, 7 + 2);
         MovedFold wide = Check.told("field 10 1");
         goesDue(wide, false, 3, 8, 8 + 7 + 7 + 3);
         MovedFold tall = Check.told("field 1 10");
@@ -262,6 +272,12 @@ final class FewestTest {
         MovedFold narrow = Check.told("field 2 5");
         // 0 1 3 5 7, then 9 8 6 4 2: they share four edges along and one at each end
         goesDue(narrow, true, 5, 12, 12 + 7);
+        goesDue(Check.told("field 3 1"), true, 2, 6, 6 + 3);
+        goesDue(Check.told("field 3 1"), true, 3, 8, 8);
+        goesDue(Check.told("field 1 3"), true, 2, 6, 6 + 3);
+        goesDue(Check.told("field 1 3"), true, 3, 8, 8);
+        // 0 1 3, then 2
+        goesDue(Check.told("field 2 2;hedge 0 0 left"), true, 3, 7, 7 + 2);
         MovedFold tall = Check.told("field 1 10");
         goesDue(tall, true, 4, 10, 10 + 9 + 5);
         MovedFold row = Check.told("field 10 1");

@@ -92,6 +92,9 @@ final class FieldTest {
         Check.due("4: no such word", Check.faultOf("  fold 1 1"), 2);
         Check.due("4: a longer word", Check.faultOf("thaws"), 0);
         Check.due("4: a shorter word", Check.faultOf("tha"), 0);
+        Check.due("4: another first letter", Check.faultOf("shaw"), 0);
+        Check.due("4: another last letter", Check.faultOf("thaw;resr 1"), 5);
+        Check.due("4: another first letter of a side", Check.faultOf("open 0 0 heft"), 9);
         Check.due("4: words in one", Check.faultOf("thaw;thawthaw"), 5);
         Check.due("4: a great letter", Check.faultOf("Thaw"), 0);
         Check.due("4: a great letter within", Check.faultOf("thAw"), 0);

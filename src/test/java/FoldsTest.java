@@ -202,6 +202,17 @@ final class FoldsTest {
         for (int night = 0; night < due.length; night++) {
             Check.due("16: lifted in night " + night, fold.moved(night, 0), due[night]);
         }
+        fold.clear();
+        fold.fold(5);
+        fold.fold(1);
+        Check.due("16: lifted in night 1 from no fold", fold.moved(1, 0), NONE);
+        Check.due("16: carried in night 1 from no fold", fold.moved(1, 1), NONE);
+        fold.fold(1);
+        Check.due("16: no fold two nights ahead", fold.moved(2, 0), 0);
+        fold.clear();
+        for (int set : new int[] {1, 3, 24, 24, 5, 32, 256, 0}) {
+            fold.fold(set);
+        }
         Check.due("16: carried to no fold", fold.moved(4, 1), NONE);
         Check.due("16: carried from no fold", fold.moved(5, 1), NONE);
         Check.due("16: a night behind the row", fold.moved(8, 0), UNKNOWN);

@@ -501,8 +501,8 @@ final class Model {
         }
     }
 
-    private List<Course> found = null;
-    private int foundFor = 0;
+    private final Map<Integer, List<Course>> kept = new TreeMap<>();
+    private List<Course> found;
     private List<Integer> trying;
     private Map<Integer, Integer> sidesOf;
     private int[][] liftedOf;
@@ -511,11 +511,12 @@ final class Model {
 
     /** Courses come out in the document's order: by folds' numbers, a beginning ahead of what goes on. */
     List<Course> courseList(int wanted) {
-        if (found != null && foundFor == wanted) {
+        found = kept.get(wanted);
+        if (found != null) {
             return found;
         }
         found = new ArrayList<>();
-        foundFor = wanted;
+        kept.put(wanted, found);
         trying = allFolds();
         int n = trying.size();
         liftedOf = new int[n][n];
@@ -578,7 +579,7 @@ final class Model {
     }
 
     void forgetCourses() {
-        found = null;
+        kept.clear();
     }
 
     int fewest(int w) {

@@ -21,10 +21,28 @@ final class ModelTest {
     }
 
     public static void main(String[] args) {
+        for (int[] size : SIZES) {
+            new ModelTest(0).goOver(size);
+        }
         for (int run = 0; run < RUNS && Check.wrongSoFar() == 0; run++) {
             new ModelTest(1000L + run).go(run);
         }
         Check.end();
+    }
+
+    /** Each field as it is laid, by all courses that there are. */
+    private void goOver(int[] size) {
+        tell(0, "field " + size[0] + " " + size[1]);
+        for (int n = 0; n <= 24; n++) {
+            for (int w = 1; w <= 11; w += 1 + w / 3) {
+                String told = "(" + w + ", " + n + ") in " + size[0] + " by " + size[1];
+                Check.due("courses" + told, fold.courses(w, n), model.courses(w, n));
+                Check.due("broken" + told, fold.broken(w, n), model.broken(w, n));
+                for (int i = -2; i <= 10; i++) {
+                    Check.due("best" + told + " " + i, fold.best(w, n, i), model.best(w, n, i));
+                }
+            }
+        }
     }
 
     private int draw(int low, int high) {
