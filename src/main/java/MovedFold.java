@@ -19,7 +19,7 @@ public final class MovedFold {
     private static final int END = 0, WORD = 1, NUMBER = 2, OTHER = 3;
     private static final int BLANK = 32, BETWEEN_LINES = 59;
 
-    private static final int NO_FOLD = 0, TOO_MANY = 1, TOO_FEW = 2, THAWED = 3, NOT_BESIDE = 4, NOT_FRESH = 5;
+    private static final int NO_FOLD = 0, TOO_MANY = 1, TOO_FEW = 2, FROZEN_MOVED = 3, NOT_BESIDE = 4, NOT_FRESH = 5;
 
     private static final int FEWEST_NEEDED = 0, FEWEST_LIFTED = 1, HOW_MANY = 2;
     private static final int FAR = 1 << 20, MODULUS = 1000000007;
@@ -721,7 +721,7 @@ public final class MovedFold {
             }
             int ahead = folds[night - 1];
             if (ground.isFrozen(night)) {
-                return fold == ahead ? NONE : THAWED;
+                return fold == ahead ? NONE : FROZEN_MOVED;
             }
             if ((table.beside[fold & ~ahead] & ahead & ~fold) == 0) {
                 return NOT_BESIDE;

@@ -152,6 +152,9 @@ final class FewestTest {
         MovedFold square = Check.told("field 2 2");
         bestDue(square, 1, 4, 4 + 3 + 3 + 3, 1, 2, 8, 4);
         bestDue(square, 1, 7, 6 + 4, 3, 12);
+        // 16 behind 8 would lift as few, but does not lie beside it
+        MovedFold hedged = Check.told("field 2 3;lane 1 0;hedge 1 2 up");
+        bestDue(hedged, 1, 4, 4 + 3 + 2 + 3 + 3, 1, 4, 8, 32, 16);
         MovedFold free = Check.told("field 2 1;yards 0 0 0;yards 1 0 0");
         bestDue(free, 1, 60, 4, 1);
         MovedFold lane = Check.told("field 3 1;lane 1 0;yards 0 0 0");
