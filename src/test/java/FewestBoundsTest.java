@@ -31,9 +31,11 @@ final class FewestBoundsTest {
         lastStripHasThoseLeft();
         stripsUpAndDown();
         snailWithin();
+        waysOfEachSize();
         goesWithoutFold();
         goesRefused();
         countsAtTheirBounds();
+        fieldsOneAfterAnother();
         fiveHundredAndTwelve();
         Check.end();
     }
@@ -237,9 +239,19 @@ final class FewestBoundsTest {
         MovedFold star = Check.told("field 3 3;lane 0 0;lane 2 0;lane 0 2;lane 2 2");
         Check.due("21: no cross by single squares", star.courses(1, 4), 0);
         Check.due("21: no cross by twos", star.courses(1, 6), 0);
+        Check.due("20: no best cross by single squares", star.best(1, 4, -2), NONE);
+        Check.due("20: no best cross by twos", star.best(1, 7, -2), NONE);
+        Check.due("20: a best cross", star.best(1, 8, -1), 3);
         Check.due("19: a cross", star.fewest(1), 8);
         MovedFold hedged = Check.told("field 2 1;hedge 0 0 right");
         Check.due("21: through a hedge", hedged.courses(1, 4), 2);
+        // 16 behind 8 would lift as few as 32, but does not lie beside it
+        MovedFold bend = Check.told("field 2 3;lane 1 0;hedge 1 2 up");
+        int[] row = {1, 4, 8, 32, 16};
+        for (int i = 0; i < row.length; i++) {
+            Check.due("20: fold " + i + " beside the last", bend.best(1, 4, i), row[i]);
+        }
+        Check.due("20: lifted beside the last", bend.best(1, 4, -2), 4 + 3 + 2 + 3 + 3);
         MovedFold corner = Check.told("field 2 2;lane 1 0;lane 0 1");
         Check.due("21: not by a corner", corner.courses(1, 60), 0);
         MovedFold wrap = Check.told("field 2 2;lane 0 0;lane 1 1");
@@ -300,6 +312,7 @@ final class FewestBoundsTest {
         }
         Check.due("20: w 1, n 60", fold.best(1, 60, -2), 8);
         Check.due("20: w 90, n 60", fold.best(90, 60, -2), 8);
+        Check.due("20: n 60 again", fold.best(1, 60, -2), 8);
         Check.due("20: n 0", fold.best(1, 0, -2), NONE);
         MovedFold free = Check.told("hedge 0 0 left;hedge 0 0 right;hedge 0 0 up;hedge 0 0 down");
         Check.due("20: n 0 where none is needed", free.best(1, 0, -2), 0);
@@ -472,6 +485,14 @@ final class FewestBoundsTest {
             goesDue(three, snail, 3, 8, 8);
             goesDue(three, snail, 4, 8, 8);
             goesDue(three, snail, 10, 8, 8);
+            for (int n = 1; n <= 10; n++) {
+                // one row or one column: there is no way back
+                goesDue(Check.told("field " + n + " 1"), snail, n, 2 * n + 2, 2 * n + 2);
+                goesDue(Check.told("field 1 " + n), snail, n, 2 * n + 2, 2 * n + 2);
+                goesDue(Check.told("field " + n + " 1"), snail, 1, 4, 3 * n + 1);
+                goesDue(Check.told("field 1 " + n), snail, 1, 4, 3 * n + 1);
+            }
+            goesDue(Check.told("hedge 0 0 left;hedge 0 0 right;hedge 0 0 up;hedge 0 0 down"), snail, 1, 0, 0);
             goesDue(new MovedFold(), snail, 1, 4, 4);
             goesDue(new MovedFold(), snail, 10, 4, 4);
         }
@@ -511,6 +532,37 @@ final class FewestBoundsTest {
         goesDue(tall, true, 3, 8, 8 + 5);
         // 0 1 | 3 5 | 4 2
         goesDue(tall, true, 2, 6, 6 + 5 + 4);
+    }
+
+    /** Both ways in each field of two rows and two columns at least, written out, for each k. */
+    private static void waysOfEachSize() {
+        String[][] ways = {
+            {"2 2", "0231", "0132"}, {"3 2", "034125", "012543"}, {"2 3", "024531", "013542"},
+            {"4 2", "04512673", "01237654"}, {"2 4", "02467531", "01357642"}, {"3 3", "036741258", "012587634"},
+            {"5 2", "0561278349", "0123498765"}, {"2 5", "0246897531", "0135798642"}};
+        for (String[] way : ways) {
+            for (int k = 1; k <= 10; k++) {
+                MovedFold fold = Check.told("field " + way[0] + ";hedge 0 0 left;hedge 1 1 right;hedge 0 1 up");
+                wayDue(fold, false, way[1], k);
+                wayDue(fold, true, way[2], k);
+            }
+        }
+    }
+
+    private static void wayDue(MovedFold fold, boolean snail, String way, int k) {
+        int most = 0;
+        int lifted = 0;
+        long ahead = 0;
+        for (int from = 0; from < way.length(); from += k) {
+            int set = 0;
+            for (int i = from; i < Math.min(way.length(), from + k); i++) {
+                set |= 1 << way.charAt(i) - '0';
+            }
+            most = Math.max(most, fold.sides(set));
+            lifted += Long.bitCount(fold.edges(set) & ~ahead);
+            ahead = fold.edges(set);
+        }
+        goesDue(fold, snail, k, most, lifted);
     }
 
     /** "none, if one is no FOLD"; "Each must be GOOD by itself (a FOLD)". */
@@ -563,6 +615,26 @@ final class FewestBoundsTest {
         }
         Check.due("25: columns of a tall field", Check.told("field 1 10").count(1), 1);
         Check.due("25: edges of a tall field", Check.told("field 1 10").count(2), 31);
+    }
+
+    /** All is answered for the field as it is now, whatever was asked of the one ahead. */
+    private static void fieldsOneAfterAnother() {
+        MovedFold fold = new MovedFold();
+        for (int n : new int[] {10, 2, 9, 1, 10, 3, 10, 10}) {
+            Check.tell(fold, "field " + n + " 1");
+            String told = " of " + n;
+            Check.due("19: all at once" + told, fold.fewest(90), 2 * n + 2);
+            Check.due("20: lifted" + told, fold.best(1, 60, -2), 2 * n + 2);
+            Check.due("20: by one each" + told, fold.best(1, 4, -1), n);
+            Check.due("20: by one each, lifted" + told, fold.best(1, 4, -2), 3 * n + 1);
+            Check.due("20: with 60 again" + told, fold.best(1, 60, -1), 1);
+            Check.due("20: by one each again, the last" + told, fold.best(1, 4, n - 1), 1 << n - 1);
+            Check.due("20: another w" + told, fold.best(90, 4, -1), n == 1 ? 1 : NONE);
+            Check.due("21: courses" + told, fold.courses(1, 60), (1 << n) - 1);
+            Check.due("22: round" + told, fold.round(1), 100);
+            Check.due("21: courses behind round" + told, fold.courses(1, 60), (1 << n) - 1);
+            Check.due("17: few" + told, fold.few(n, 0), (1 << n) - 1);
+        }
     }
 
     /** "An object is used for at most 512 calls after it has been made": the last of them is answered as the first. */

@@ -30,6 +30,7 @@ final class FoldsBoundsTest {
         liftedFromAhead();
         carriedFromTheHeap();
         carriedFromEdges();
+        carriedLeastTogether();
         Check.end();
     }
 
@@ -537,6 +538,31 @@ final class FoldsBoundsTest {
         Check.due("16: an edge gives one hurdle", small.moved(1, 1), 3 + 5 + 5 - 3);
         Check.tell(small, "hedge 0 0 right");
         Check.due("16: a hedge gives none", small.moved(1, 1), 3 + 5 + 5);
+    }
+
+    private static void carriedDue(String field, int ahead, int set, int due) {
+        MovedFold fold = Check.told(field);
+        fold.fold(ahead);
+        fold.fold(set);
+        Check.due("16: carried from " + ahead + " to " + set + " in " + field, fold.moved(1, 1), due);
+    }
+
+    /** "the least together": where each edge by itself would take its nearest, it would be more. */
+    private static void carriedLeastTogether() {
+        // from the heap 24; the edge right of 1 saves 5 of the 7 to one far end, that on its left 3 of the other 7
+        carriedDue("field 3 1", 2, 7, 24 - 5 - 3);
+        // from the heap 3 + 5 + 3; the edge above 3 saves most on the right
+        carriedDue("field 2 2", 8, 10, 3 + 2 + 3);
+        // to the right end from the edge right of 2, above and below 3 from above and below 1, left of 2 from 0's
+        carriedDue("field 4 1", 7, 12, 2 + 4 + 4 + 4);
+        // right of 3 from right of 1, below 3 from above 1, below 2 from below 0, the others from the heap
+        carriedDue("field 2 2", 3, 13, 2 + 4 + 2 + 3 + 3);
+        // two squares on, and three: each edge as far
+        carriedDue("field 5 1", 1, 4, 4 * 4);
+        carriedDue("field 5 1", 3, 24, 6 * 6);
+        // the edge between stays; the left end goes to the right one
+        carriedDue("field 4 1", 3, 12, 4 * 4 + 8);
+        carriedDue("field 3 2", 3, 25, 2 + 4 + 2 + 3 + 3);
     }
 
     /** Ten squares of 9 yards each, by two texts. */

@@ -30,16 +30,18 @@ final class ModelTest {
         Check.end();
     }
 
-    /** Each field as it is laid, by all courses that there are. */
+    /** Each field as it is laid, by all courses that there are; a fresh object each time, as 512 calls are promised. */
     private void goOver(int[] size) {
-        tell(0, "field " + size[0] + " " + size[1]);
+        String text = "field " + size[0] + " " + size[1];
+        tell(0, text);
         for (int n = 0; n <= 24; n++) {
+            MovedFold fresh = Check.told(text);
             for (int w = 1; w <= 11; w += 1 + w / 3) {
                 String told = "(" + w + ", " + n + ") in " + size[0] + " by " + size[1];
-                Check.due("courses" + told, fold.courses(w, n), model.courses(w, n));
-                Check.due("broken" + told, fold.broken(w, n), model.broken(w, n));
+                Check.due("courses" + told, fresh.courses(w, n), model.courses(w, n));
+                Check.due("broken" + told, fresh.broken(w, n), model.broken(w, n));
                 for (int i = -2; i <= 10; i++) {
-                    Check.due("best" + told + " " + i, fold.best(w, n, i), model.best(w, n, i));
+                    Check.due("best" + told + " " + i, fresh.best(w, n, i), model.best(w, n, i));
                 }
             }
         }
