@@ -232,7 +232,9 @@ final class SentencesTest {
     private static void earlierTexts() {
         says("what earlier texts told stays, where nothing else is told;");
         MovedFold fold = Check.told("field 2 1;yards 0 0 5;hedge 1 0 up;hurdles 9;want 3;rest 2;frozen 7");
+        fold.fold(1);
         Check.tell(fold, "pond 1 0");
+        due("the row", fold.count(4), 1);
         due("yards", fold.square(0), 5);
         due("hedge", fold.hedge(4), 1);
         due("hurdles", fold.count(5), 9);
@@ -243,6 +245,11 @@ final class SentencesTest {
         due("told else", fold.square(0), 4);
         due("hurdles told else", fold.count(5), 8);
         due("the pond", fold.square(1), 10);
+        Check.tell(fold, "field 3 3");
+        due("hurdles behind field", fold.count(5), 8);
+        due("want behind field", fold.night(0, 0), 3);
+        due("rest behind field", fold.count(6), 2);
+        due("frozen behind field", fold.night(7, 1), 1);
         says("W, H with W times H 10 at most;");
         due("5 by 2", Check.faultOf("field 5 2"), NONE);
         due("5 by 3", Check.faultOf("field 5 3"), 8);
@@ -295,6 +302,7 @@ final class SentencesTest {
         says("small letters a .. z, numbers of 1 or 2 digits, blanks (32) may stand ahead of, between, behind TOKENS, and need not "
             + "where a TOKEN ends without.)");
         due("a great letter", Check.faultOf("reSt 1"), 0);
+        due("a great letter is no letter of the token", Check.faultOf("thawS"), 4);
         due("two digits", Check.told("rest 07").count(6), 7);
         due("three digits", Check.faultOf("rest 007"), 5);
         due("blanks", Check.faultOf("  hedge   0  0   left  ;  thaw  "), NONE);
@@ -306,6 +314,7 @@ final class SentencesTest {
         due("the whole row of letters", Check.faultOf("thaw; thawx"), 6);
         due("the whole row of digits", Check.faultOf("want 12345"), 5);
         due("any other byte", Check.faultOf("thaw--"), 4);
+        due("each other byte by itself", Check.faultOf("thaw;;thaw"), 5);
         due("a byte above 127", Check.faultOf("thaw \u00e9"), 5);
         due("out of its bounds", Check.faultOf("thaw;frozen 20"), 12);
         due("the first of two", Check.faultOf("frozen 20;frozen 21"), 7);
@@ -353,6 +362,7 @@ final class SentencesTest {
         due("one square", row.edges(2), 1L << 1 | 1L << 8);
         MovedFold ring = Check.told("field 3 3");
         due("with a hole", ring.sides(511 & ~16), 16);
+        due("a row's end and the next row's start are no piece", ring.sides(4 | 8), NONE);
         due("none within", ring.edges(511) & (1L << 5 | 1L << 6 | 1L << 16 | 1L << 19), 0);
         says("YARDS of it: those of its SQUARES.");
         due("5 and 2", Check.told("field 3 1;yards 0 0 5;yards 1 0 2;yards 2 0 9").yards(3), 7);
@@ -471,6 +481,7 @@ final class SentencesTest {
         says("A COURSE is a row of FOLDS, one at least,");
         due("nothing to be had", Check.told("yards 0 0 0").courses(1, 60), 1);
         due("hurdles for one", Check.told("yards 0 0 0").fewest(1), 4);
+        due("the best has one", Check.told("yards 0 0 0").best(1, 60, 0), 1);
         says("each fresh (no SQUARE twice at all),");
         // 1 2 4 and 4 2 1; with squares twice there were 2 1 2 4 and more
         MovedFold row = Check.told("field 3 1");
@@ -522,6 +533,10 @@ final class SentencesTest {
         due("a pond: 3, else 4", Check.told("field 2 1;pond 1 0").round(1), 100 - 1);
         due("a lane: 12, else 10", Check.told("field 3 2;lane 1 0").round(5), 100 + 2);
         due("none with the lane", Check.told("field 3 1;lane 1 0").round(1), NONE);
+        MovedFold drained = Check.told("field 3 2;lane 1 0");
+        due("the lane as it is: 12, else 10", drained.round(5), 100 + 2);
+        Check.tell(drained, "pond 1 0;hedge 0 0 left");
+        due("the field as it is now: 8, else 9", drained.round(5), 100 - 1);
         says("BROKEN: how many more LIFTED BEST has with one hurdle less; none likewise.");
         due("8, then 9", row.broken(1, 8), 1);
         due("9, then 10", row.broken(1, 6), 1);
@@ -538,6 +553,8 @@ final class SentencesTest {
         due("by two, lifted", fold.goes(false, 2, 1), 6 + 5 + 5 + 4 + 3);
         // 0 3 6 | 7 4 1 | 2 5 8
         due("by three, lifted", fold.goes(false, 3, 1), 8 + 5 + 5);
+        // 0 2 3 | 1; upward first it were 2 0 1 | 3, with the hedge in the greater one
+        due("downward first, the most", Check.told("field 2 2;hedge 1 0 up").goes(false, 3, 0), 8);
         says("SNAIL: along the outer SQUARES from SQUARE 0: to the right, down, to the left, up, then on within.");
         // 0 1 | 2 3 | 7 6 | 5 4; down first it were 6 + 5 + 5 + 5
         due("by two in 4 by 2, lifted", Check.told("field 4 2").goes(true, 2, 1), 6 + 5 + 4 + 5);
@@ -546,6 +563,7 @@ final class SentencesTest {
         // the ring, then 4 within
         due("by eight, the most", fold.goes(true, 8, 0), 16);
         due("by eight, lifted", fold.goes(true, 8, 1), 16);
+        due("all nine at once", fold.goes(true, 9, 0), 12);
         says("Each must be GOOD by itself (a FOLD): the most that one NEEDS, all LIFTED; none, if one is no FOLD.");
         MovedFold poor = Check.told("field 2 1;hurdles 0;want 90;yards 0 0 0;yards 1 0 0");
         due("a fold that needs more and has less", poor.goes(false, 1, 0), 4);
@@ -596,6 +614,7 @@ final class SentencesTest {
         due("n 0", fold.write(32, 0), OUTSIDE);
         due("n 9", fold.write(32, 9), OUTSIDE);
         due("no fault", fold.fault(), NONE);
+        due("128 and 32 is no blank", Check.faultOf("thaw\u00a0"), 4);
         due("FULL is seen", Check.write(fold, " ".repeat(188)), FULL);
         says("THE TEXT is empty: how many bytes it had.");
         due("erase()", fold.erase(), 13 + 184);
